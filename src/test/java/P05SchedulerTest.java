@@ -1,0 +1,334 @@
+/** Promise 5: order, as the scheduler answers it (orders 0 .. 7, others, and PLACING). */
+final class P05SchedulerTest {
+    public static void main(String[] args) {
+        quotas();
+        workers();
+        tasks();
+        outputs();
+        cancelling();
+        leases();
+        standings();
+        otherKinds();
+        P05SchedulerTest placing = new P05SchedulerTest();
+        placing.order();
+        placing.waitsForTheTaskBefore();
+        placing.quota();
+        placing.quotaIsSeenBeforeGivingWay();
+        placing.bestFit();
+        placing.fewestGiveWay();
+        placing.whoGivesWay();
+        placing.equalsDoNotGiveWay();
+        placing.notEnoughGiveWay();
+        placing.whoGaveWayIsNotBegunAgain();
+        Due.end();
+    }
+
+    private static void quotas() {
+        Client client = Client.ofNewHerd(3);
+        Due.is("quota 0 of user 0", client.quota(0, 0), 1);
+        Due.is("quota 60 of user 3", client.quota(3, 60), 1);
+        Due.is("quota 61", client.quota(0, 61), 0);
+        Due.is("quota - 1", client.quota(0, -1), 0);
+        Due.is("user 4", client.quota(4, 10), 0);
+        Due.is("user - 1", client.quota(-1, 10), 0);
+        Due.is("user MAX", client.quota(Integer.MAX_VALUE, 10), 0);
+    }
+
+    private static void workers() {
+        Client client = Client.ofNewHerd(3);
+        Due.is("capacity 0", client.addWorker(0), -1);
+        Due.is("capacity 21", client.addWorker(21), -1);
+        Due.is("capacity - 5", client.addWorker(-5), -1);
+        for (int k = 0; k < 6; k++) {
+            Due.is("worker " + k, client.addWorker(k == 0 ? 1 : 20), k);
+        }
+        Due.is("a seventh", client.addWorker(5), -1);
+    }
+
+    private static void tasks() {
+        Client client = Client.ofNewHerd(3);
+        Due.is("behind itself", client.addTask(0, 1, 0, 0), -1);
+        Due.is("the least", client.addTask(0, 1, 0, -1), 0);
+        Due.is("the most", client.addTask(3, 20, 3, 0), 1);
+        int[][] wrong = {
+            {-1, 1, 0, -1}, {4, 1, 0, -1}, {0, 0, 0, -1}, {0, 21, 0, -1}, {0, 1, -1, -1}, {0, 1, 4, -1},
+            {0, 1, 0, -2}, {0, 1, 0, 2}, {0, 1, 0, 20}, {0, 1, 0, Integer.MAX_VALUE}, {0, 1, 0, Integer.MIN_VALUE}};
+        for (int[] w : wrong) {
+            Due.is("task " + w[0] + " " + w[1] + " " + w[2] + " " + w[3], client.addTask(w[0], w[1], w[2], w[3]), -1);
+        }
+        for (int k = 2; k < 20; k++) {
+            Due.is("task " + k, client.addTask(0, 1, 0, k - 1), k);
+        }
+        Due.is("a twenty-first", client.addTask(0, 1, 0, -1), -1);
+    }
+
+    /** One user with much quota, one worker of the capacity. */
+    private static Client withWorkers(int... capacities) {
+        Client client = Client.ofNewHerd(3);
+        for (int user = 0; user < 4; user++) {
+            client.quota(user, 60);
+        }
+        for (int capacity : capacities) {
+            client.addWorker(capacity);
+        }
+        return client;
+    }
+
+    private static void stands(Client client, String name, int... due) {
+        for (int k = 0; k < due.length; k++) {
+            Due.is(name + ": task " + k, 1000 * client.herd.task(0, k, 0) + client.herd.task(0, k, 1), due[k]);
+        }
+    }
+
+    private static void runOn(Client client, String name, int... due) {
+        for (int k = 0; k < due.length; k++) {
+            Due.is(name + ": worker of task " + k, client.herd.task(0, k, 2), due[k]);
+        }
+    }
+
+    private static void outputs() {
+        Client client = withWorkers(10);
+        client.addTask(0, 4, 0, -1);
+        Due.is("it waits", client.output(0, 0, 9), 0);
+        client.placing();
+        Due.is("another attempt", client.output(0, 0, 9), 0);
+        Due.is("a later attempt", client.output(0, 2, 9), 0);
+        Due.is("none such", client.output(1, 1, 9), 0);
+        Due.is("none such", client.output(-1, 1, 9), 0);
+        client.endLease(0);
+        Due.is("it waits again", client.output(0, 1, 9), 0);
+        client.placing();
+        Due.is("the attempt before", client.output(0, 1, 9), 0);
+        Due.is("the last attempt", client.output(0, 2, -7), 1);
+        Due.is("its output", client.herd.task(0, 0, 3), -7);
+        Due.is("once more", client.output(0, 2, 8), 0);
+        Due.is("its output stays", client.herd.task(0, 0, 3), -7);
+        Due.is("its room is free", client.herd.worker(0, 0, 1), 10);
+        stands(client, "finished", 2002);
+        Due.is("a finished task is not begun", client.placing(), 0);
+    }
+
+    private static void cancelling() {
+        Client client = withWorkers(10);
+        client.addTask(0, 4, 0, -1);
+        client.addTask(0, 5, 0, -1);
+        client.addTask(0, 5, 0, -1);
+        Due.is("two begun", client.placing(), 2);
+        Due.is("one that waits", client.cancel(2), 1);
+        Due.is("one that runs", client.cancel(0), 1);
+        Due.is("one that is cancelled", client.cancel(0), 0);
+        client.output(1, 1, 5);
+        Due.is("one that is finished", client.cancel(1), 0);
+        Due.is("none such", client.cancel(3), 0);
+        Due.is("none such", client.cancel(-1), 0);
+        stands(client, "cancelled", 3001, 2001, 3000);
+        Due.is("room is free", client.herd.worker(0, 0, 1), 10);
+        Due.is("no output of a cancelled one", client.output(0, 1, 5), 0);
+        Due.is("cancelled ones are not begun", client.placing(), 0);
+    }
+
+    private static void leases() {
+        Client client = withWorkers(10, 3);
+        client.addTask(0, 4, 0, -1);
+        client.addTask(0, 5, 0, -1);
+        client.addTask(0, 3, 0, -1);
+        Due.is("three begun", client.placing(), 3);
+        Due.is("none such", client.endLease(2), 0);
+        Due.is("none such", client.endLease(-1), 0);
+        Due.is("two ran there", client.endLease(0), 2);
+        stands(client, "after the lease", 1, 1, 1001);
+        Due.is("none runs there", client.endLease(0), 0);
+        Due.is("the worker is there still", client.herd.worker(0, 0, 1), 10);
+        Due.is("begun again", client.placing(), 2);
+        stands(client, "begun again", 1002, 1002, 1001);
+    }
+
+    private static void standings() {
+        Client client = withWorkers(10);
+        client.addTask(0, 4, 0, -1);
+        Due.is("it waits", client.standing(0), 0);
+        client.placing();
+        Due.is("it runs", client.standing(0), 1001);
+        client.endLease(0);
+        Due.is("it waits, attempt 1", client.standing(0), 1);
+        client.placing();
+        client.output(0, 2, 3);
+        Due.is("it is finished", client.standing(0), 2002);
+        client.addTask(0, 4, 0, -1);
+        client.cancel(1);
+        Due.is("it is cancelled", client.standing(1), 3000);
+        Due.is("none such", client.standing(2), -1);
+        Due.is("none such", client.standing(-1), -1);
+        Due.is("none such", client.standing(20), -1);
+    }
+
+    private static void otherKinds() {
+        Client client = Client.ofNewHerd(3);
+        int[] kinds = {8, 9, -1, 100, Integer.MAX_VALUE, Integer.MIN_VALUE};
+        for (int kind : kinds) {
+            Due.is("kind " + kind, client.order(kind, 1, 1, 1, 1), -1);
+        }
+        Due.is("they are in the log", client.herd.told(0, 2), kinds.length);
+        Due.is("they are answers", client.herd.count(2), kinds.length);
+    }
+
+    private void order() {
+        Client client = withWorkers(10);
+        client.addTask(0, 4, 1, -1);
+        client.addTask(0, 4, 3, -1);
+        client.addTask(0, 4, 1, -1);
+        client.addTask(0, 4, 3, -1);
+        Due.is("two of the greater priority", client.placing(), 2);
+        stands(client, "greater priority", 0, 1001, 0, 1001);
+        client.cancel(1);
+        Due.is("then the lesser number", client.placing(), 1);
+        stands(client, "lesser number", 1001, 3001, 0, 1001);
+    }
+
+    private void waitsForTheTaskBefore() {
+        Client client = withWorkers(20);
+        client.addTask(0, 1, 0, -1);
+        client.addTask(0, 1, 3, 0);
+        client.addTask(0, 1, 3, 1);
+        Due.is("the first alone", client.placing(), 1);
+        Due.is("it runs, which is not enough", client.placing(), 0);
+        client.output(0, 1, 5);
+        Due.is("the second", client.placing(), 1);
+        client.cancel(1);
+        Due.is("behind a cancelled one none begins", client.placing(), 0);
+        stands(client, "in a row", 2001, 3001, 0);
+    }
+
+    private void quota() {
+        Client client = Client.ofNewHerd(3);
+        client.addWorker(20);
+        client.addTask(2, 5, 0, -1);
+        client.addTask(2, 3, 0, -1);
+        client.addTask(2, 2, 0, -1);
+        client.addTask(1, 1, 0, -1);
+        Due.is("quota 0 at first", client.placing(), 0);
+        client.quota(2, 7);
+        Due.is("up to the quota", client.placing(), 2);
+        stands(client, "quota", 1001, 0, 1001, 0);
+        Due.is("used", client.herd.used(0, 2), 7);
+        client.quota(2, 9);
+        Due.is("one less than needed", client.placing(), 0);
+        client.quota(2, 10);
+        Due.is("all of it", client.placing(), 1);
+        client.quota(2, 1);
+        Due.is("a lesser quota stops none", client.herd.used(0, 2), 10);
+        Due.is("agree", client.herd.agree(), true);
+        client.cancel(2);
+        client.addTask(2, 1, 3, -1);
+        Due.is("but none begins", client.placing(), 0);
+        Due.is("agree", client.herd.agree(), true);
+    }
+
+    /** What would give way is still running when the quota is looked at. */
+    private void quotaIsSeenBeforeGivingWay() {
+        Client client = Client.ofNewHerd(3);
+        client.quota(0, 6);
+        client.addWorker(5);
+        client.addTask(0, 5, 0, -1);
+        Due.is("begun", client.placing(), 1);
+        client.addTask(0, 5, 3, -1);
+        Due.is("5 and 5 are above 6", client.placing(), 0);
+        client.quota(0, 10);
+        Due.is("at most 10", client.placing(), 1);
+        stands(client, "gave way", 1, 1001);
+    }
+
+    private void bestFit() {
+        Client client = withWorkers(9, 6, 8, 6);
+        client.addTask(0, 7, 3, -1);
+        client.addTask(0, 6, 2, -1);
+        client.addTask(0, 2, 1, -1);
+        client.addTask(0, 6, 1, -1);
+        client.addTask(0, 1, 0, -1);
+        Due.is("all begun", client.placing(), 5);
+        runOn(client, "best fit", 2, 1, 3, 0, 2);
+        int[] free = {3, 0, 0, 4};
+        for (int w = 0; w < 4; w++) {
+            Due.is("free on " + w, client.herd.worker(0, w, 1), free[w]);
+        }
+    }
+
+    private void fewestGiveWay() {
+        Client client = withWorkers(6, 6, 6);
+        int[] needs = {2, 4, 6, 6};
+        for (int need : needs) {
+            client.addTask(0, need, 0, -1);
+        }
+        Due.is("all begun", client.placing(), 4);
+        runOn(client, "full", 0, 0, 1, 2);
+        client.addTask(1, 5, 2, -1);
+        Due.is("one more", client.placing(), 1);
+        Due.is("two would leave worker 0, one leaves worker 1", client.herd.task(0, 4, 2), 1);
+        stands(client, "fewest", 1001, 1001, 1, 1001, 1001);
+        client.addTask(1, 3, 1, -1);
+        Due.is("one from worker 0: task 1", client.placing(), 1);
+        runOn(client, "the lesser worker", 0, -1, -1, 2, 1, 0);
+    }
+
+    private void whoGivesWay() {
+        Client client = withWorkers(10);
+        int[] priorities = {1, 0, 2, 0, 1};
+        for (int priority : priorities) {
+            client.addTask(0, 2, priority, -1);
+        }
+        Due.is("all begun", client.placing(), 5);
+        client.addTask(1, 1, 3, -1);
+        client.placing();
+        stands(client, "lowest, greatest number", 1001, 1001, 1001, 1, 1001, 1001);
+        Due.is("no more left than was needed", client.herd.worker(0, 0, 1), 1);
+        client.cancel(3);
+        client.addTask(1, 4, 2, -1);
+        client.placing();
+        stands(client, "then the next", 1001, 1, 1001, 3001, 1, 1001, 1001);
+        client.addTask(1, 3, 2, -1);
+        Due.is("2 of lower priority and 1 free", client.placing(), 1);
+        stands(client, "the last one of lower priority", 1, 1, 1001, 3001, 1, 1001, 1001, 1001);
+    }
+
+    private void equalsDoNotGiveWay() {
+        Client client = withWorkers(4);
+        client.addTask(0, 4, 2, -1);
+        client.placing();
+        client.addTask(1, 1, 2, -1);
+        client.addTask(1, 1, 1, -1);
+        Due.is("none of equal or greater priority leaves", client.placing(), 0);
+        stands(client, "equals", 1001, 0, 0);
+        client.addTask(1, 1, 3, -1);
+        Due.is("a lower one does, which leaves room for all but itself", client.placing(), 3);
+        stands(client, "lower", 1, 1001, 1001, 1001);
+    }
+
+    private void notEnoughGiveWay() {
+        Client client = withWorkers(6, 3);
+        client.addTask(0, 3, 3, -1);
+        client.addTask(0, 6, 0, -1);
+        Due.is("both", client.placing(), 2);
+        runOn(client, "both", 1, 0);
+        client.addTask(0, 7, 3, -1);
+        Due.is("no worker is so great", client.placing(), 0);
+        stands(client, "none left for nothing", 1001, 1001, 0);
+        client.cancel(2);
+        client.addTask(0, 2, 1, -1);
+        Due.is("where there is nothing to leave, none is asked", client.placing(), 1);
+        runOn(client, "from the worker with lower ones", 1, -1, -1, 0);
+    }
+
+    /** When both have left, there is room for the smaller one: it may come in with the next placing. */
+    private void whoGaveWayIsNotBegunAgain() {
+        Client client = withWorkers(7);
+        client.addTask(0, 6, 0, -1);
+        client.addTask(0, 1, 0, -1);
+        Due.is("both", client.placing(), 2);
+        client.addTask(1, 3, 1, -1);
+        Due.is("one", client.placing(), 1);
+        stands(client, "both gave way", 1, 1, 1001);
+        Due.is("free", client.herd.worker(0, 0, 1), 4);
+        Due.is("the next placing", client.placing(), 1);
+        stands(client, "the smaller one is back", 1, 1002, 1001);
+    }
+}
