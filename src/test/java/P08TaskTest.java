@@ -56,7 +56,7 @@ final class P08TaskTest {
         Due.is("2 is down, and knows what it knew", herd.task(2, 3, 2), 0);
         Due.is("an order that is open", herd.order(0, 1, 1, 2, 0, 1, 0, -1, 1), HerdMasters.OPEN);
         Due.is("makes no task", herd.task(0, 4, 0), BAD);
-        Due.is("1 leads", herd.change(1, 40), HerdMasters.NOT_HERE + 4);
+        Due.is("1 leads", herd.change(1, 40), 1);
         Due.is("1 knows it finished", herd.task(1, 3, 3), 6);
     }
 }
