@@ -269,9 +269,14 @@ public final class HerdMasters {
         }
     }
 
+    /** Done orders never change, so each scheduler goes on from where it stood. */
     private void carryOutWhatIsDone() {
         for (int i = 0; i < size; i++) {
-            masters[i].carryOutWhatIsDone();
+            Master master = masters[i];
+            for (int k = master.carriedOut; k < master.done && k < master.length; k++) {
+                master.answers[k] = master.scheduler.answerTo(master.entries[k]);
+                master.carriedOut = k + 1;
+            }
         }
     }
 
@@ -396,14 +401,6 @@ public final class HerdMasters {
             }
         }
 
-        /** Done orders never change, so the scheduler goes on from where it stood. */
-        void carryOutWhatIsDone() {
-            for (int k = carriedOut; k < done && k < length; k++) {
-                answers[k] = scheduler.answerTo(entries[k]);
-                carriedOut = k + 1;
-            }
-        }
-
         int greatestNumberOf(int client) {
             int greatest = 0;
             for (int k = 0; k < length; k++) {
@@ -521,6 +518,7 @@ public final class HerdMasters {
         final int[] capacities = new int[MOST_WORKERS];
         final Task[] tasks = new Task[MOST_TASKS];
         final boolean[] waitedAtFirst = new boolean[MOST_TASKS];
+        final int[] leaving = new int[MOST_TASKS];
         int workerCount;
         int taskCount;
 
@@ -656,7 +654,10 @@ public final class HerdMasters {
                 if (worker == NONE) {
                     return false;
                 }
-                giveWay(worker, task, freeOn(worker), true);
+                int count = noteLeaving(worker, task, freeOn(worker));
+                for (int k = 0; k < count && k < MOST_TASKS; k++) {
+                    tasks[leaving[k]].leave(Task.WAITS);
+                }
             }
             task.beginOn(worker);
             return true;
@@ -679,34 +680,29 @@ public final class HerdMasters {
             int best = NONE;
             int fewest = MOST_TASKS + 1;
             for (int w = 0; w < workerCount; w++) {
-                int leaving = giveWay(w, task, freeOn(w), false);
-                if (leaving < fewest) {
+                int count = noteLeaving(w, task, freeOn(w));
+                if (count < fewest) {
                     best = w;
-                    fewest = leaving;
+                    fewest = count;
                 }
             }
             return best;
         }
 
-        /**
-         * How many tasks must give way: more than there are, if even all would not make room.
-         * Counting and leaving are one walk, so that those who leave are those who were counted.
-         */
-        private int giveWay(int worker, Task task, int free, boolean inEarnest) {
+        /** How many must give way, noted in their order: more than there are, if even all are not enough. */
+        private int noteLeaving(int worker, Task task, int free) {
             int room = free;
-            int leaving = 0;
+            int count = 0;
             for (int priority = 0; priority < task.priority; priority++) {
                 for (int k = taskCount - 1; k >= 0 && room < task.need; k--) {
                     if (tasks[k].place == worker && tasks[k].priority == priority) {
                         room += tasks[k].need;
-                        leaving++;
-                        if (inEarnest) {
-                            tasks[k].leave(Task.WAITS);
-                        }
+                        leaving[count] = k;
+                        count++;
                     }
                 }
             }
-            return room >= task.need ? leaving : MOST_TASKS + 1;
+            return room >= task.need ? count : MOST_TASKS + 1;
         }
 
         int freeOn(int worker) {

@@ -26,13 +26,17 @@ final class Inside {
 
     static void set(Object object, String path, int number) throws ReflectiveOperationException {
         int cut = path.lastIndexOf(' ');
-        Object at = get(object, path.substring(0, cut));
+        Object at = cut < 0 ? object : get(object, path.substring(0, cut));
         String last = path.substring(cut + 1);
         if (Character.isDigit(last.charAt(0))) {
             Array.set(at, Integer.parseInt(last), number);
         } else {
             field(at, last).setInt(at, number);
         }
+    }
+
+    static int number(Object object, String path) throws ReflectiveOperationException {
+        return (Integer) get(object, path);
     }
 
     static void setPlace(Object object, String path, int place, Object value) throws ReflectiveOperationException {

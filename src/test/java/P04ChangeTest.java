@@ -10,6 +10,7 @@ final class P04ChangeTest {
         everyEndOfThree();
         everyEndOfFive();
         greaterViewSaysNothing();
+        greaterViewThatIsNotNormalSaysNothing();
         greatestNormalViewWins();
         longestOfThoseWins();
         onlyThoseAskedCount();
@@ -97,6 +98,17 @@ final class P04ChangeTest {
         Due.is("1 is not normal", herd.told(1, 1), 0);
         Due.is("1 asks again", herd.change(1, 40), 4);
         Due.is("a master that is not normal takes no order", herd.told(2, 0), 2);
+    }
+
+    private static void greaterViewThatIsNotNormalSaysNothing() {
+        HerdMasters herd = new HerdMasters(3);
+        herd.link(1, 2, false);
+        Due.is("0 has view 2, and is not normal", herd.change(2, 1), OPEN);
+        Due.is("0 says nothing to view 1", herd.change(1, 40), OPEN);
+        Due.is("two messages in all", herd.count(1), 2);
+        Due.is("0 keeps its view", herd.told(0, 0), 2);
+        Due.is("1 is not normal", herd.told(1, 1), 0);
+        Due.is("0 is not normal", herd.told(0, 1), 0);
     }
 
     private static void greatestNormalViewWins() {

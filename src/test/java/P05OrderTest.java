@@ -199,6 +199,7 @@ final class P05OrderTest {
 
     private static void fullLog() {
         Client client = Client.ofNewHerd(3);
+        client.number = 900;
         for (int k = 0; k < 60; k++) {
             Due.is("order " + k, client.order(8, k, 0, 0, 0), -1);
         }
@@ -207,7 +208,8 @@ final class P05OrderTest {
         Due.is("no message", client.herd.count(1), before);
         Due.is("length", client.herd.told(0, 2), 60);
         Due.is("last", client.herd.log(0, 59, 3), 59);
-        Due.is("a repeated order is answered still", client.herd.order(0, 0, 60, 8, 0, 0, 0, 0, 40), -1);
+        Due.is("a repeated order is answered still", client.herd.order(0, 0, 960, 8, 0, 0, 0, 0, 40), -1);
+        Due.is("a lesser number is not there", client.herd.order(0, 0, 900, 8, 0, 0, 0, 0, 40), NOT_HERE);
         Due.is("change of view with a full log", client.herd.change(1, 40), 1);
         Due.is("full there, too", client.herd.order(1, 1, 1, 8, 0, 0, 0, 0, 40), NOT_HERE);
         Due.is("agree", client.herd.agree(), true);

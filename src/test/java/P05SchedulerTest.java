@@ -20,6 +20,9 @@ final class P05SchedulerTest {
         placing.equalsDoNotGiveWay();
         placing.notEnoughGiveWay();
         placing.whoGaveWayIsNotBegunAgain();
+        placing.noMoreLeaveThanMust();
+        placing.nineteenGiveWay();
+        placing.sixWorkersAndTwentyTasks();
         Due.end();
     }
 
@@ -251,6 +254,12 @@ final class P05SchedulerTest {
         for (int w = 0; w < 4; w++) {
             Due.is("free on " + w, client.herd.worker(0, w, 1), free[w]);
         }
+        Client great = withWorkers(20, 19, 20, 19);
+        great.addTask(0, 1, 0, -1);
+        great.addTask(0, 19, 0, -1);
+        great.addTask(0, 20, 0, -1);
+        Due.is("all three", great.placing(), 3);
+        runOn(great, "of the greatest", 1, 3, 0);
     }
 
     private void fewestGiveWay() {
@@ -330,5 +339,45 @@ final class P05SchedulerTest {
         Due.is("free", client.herd.worker(0, 0, 1), 4);
         Due.is("the next placing", client.placing(), 1);
         stands(client, "the smaller one is back", 1, 1002, 1001);
+    }
+
+    private void noMoreLeaveThanMust() {
+        Client client = withWorkers(9);
+        for (int k = 0; k < 3; k++) {
+            client.addTask(0, 3, 0, -1);
+        }
+        Due.is("three", client.placing(), 3);
+        client.addTask(1, 6, 1, -1);
+        Due.is("one for two", client.placing(), 1);
+        stands(client, "just room enough", 1001, 1, 1, 1001);
+    }
+
+    private void nineteenGiveWay() {
+        Client client = withWorkers(20);
+        for (int k = 0; k < 19; k++) {
+            client.addTask(0, 1, 2, -1);
+        }
+        Due.is("nineteen", client.placing(), 19);
+        Due.is("the twentieth task", client.addTask(1, 20, 3, -1), 19);
+        Due.is("one for nineteen", client.placing(), 1);
+        Due.is("nothing is free", client.herd.worker(0, 0, 1), 0);
+        Due.is("none else runs", client.herd.used(0, 0), 0);
+        Due.is("it runs", client.herd.used(0, 1), 20);
+        Due.is("its lease ends", client.endLease(0), 1);
+        Due.is("all but it have room again when it is cancelled", client.cancel(19) + client.placing(), 20);
+    }
+
+    private void sixWorkersAndTwentyTasks() {
+        Client client = withWorkers(5, 5, 5, 5, 5, 5);
+        for (int k = 0; k < 20; k++) {
+            client.addTask(k % 4, 5, k < 18 ? 0 : 3, k == 17 ? 16 : -1);
+        }
+        Due.is("six at once", client.placing(), 6);
+        runOn(client, "six at once", 2, 3, 4, 5, -1);
+        Due.is("the last task", client.herd.task(0, 19, 2), 1);
+        Due.is("the last worker", client.endLease(5), 1);
+        Due.is("one waits for none of the six", client.placing(), 1);
+        Due.is("used", client.herd.used(0, 3), 10);
+        Due.is("agree", client.herd.agree(), true);
     }
 }

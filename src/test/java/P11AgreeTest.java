@@ -61,10 +61,28 @@ final class P11AgreeTest {
         agrees("2 has another order", client.herd, false);
         Inside.setPlace(client.herd, "masters 2 entries", 1, entry);
         agrees("mended", client.herd, true);
+        everyPartOfAnOrder(client);
         client.messages = 1;
         Due.is("an order that is not done", client.cancel(0), HerdMasters.OPEN);
         Inside.setPlace(client.herd, "masters 1 entries", 5, entry);
         agrees("1 has another, not done", client.herd, true);
+    }
+
+    private static void everyPartOfAnOrder(Client client) throws ReflectiveOperationException {
+        String[] parts = {"client", "number", "kind", "a", "b", "c", "d"};
+        Object entry = Inside.get(client.herd, "masters 2 entries 2");
+        for (String part : parts) {
+            Object copy = Inside.get(new HerdMasters(3), "masters 0 entries 0");
+            for (String each : parts) {
+                Inside.set(copy, each, Inside.number(entry, each));
+            }
+            Inside.setPlace(client.herd, "masters 2 entries", 2, copy);
+            agrees("a copy is the same", client.herd, true);
+            Inside.set(copy, part, Inside.number(entry, part) + 1);
+            agrees("another " + part, client.herd, false);
+        }
+        Inside.setPlace(client.herd, "masters 2 entries", 2, entry);
+        agrees("mended", client.herd, true);
     }
 
     private static void tooMuchOnAWorker() throws ReflectiveOperationException {
@@ -94,6 +112,10 @@ final class P11AgreeTest {
         Inside.set(client.herd, "given answers 4", 1);
         agrees("the placing was answered otherwise", client.herd, false);
         Inside.set(client.herd, "given answers 4", 2);
+        agrees("mended", client.herd, true);
+        Inside.setPlace(client.herd, "given isGiven", 5, true);
+        agrees("an answer to an order that is not done", client.herd, false);
+        Inside.setPlace(client.herd, "given isGiven", 5, false);
         agrees("mended", client.herd, true);
         Inside.set(client.herd, "masters 0 answers 4", 1);
         Due.is("another answer to the same order", client.herd.order(0, 0, 5, 3, 0, 0, 0, 0, 40), 1);
