@@ -16,6 +16,18 @@ final class Client {
         return new Client(new HerdMasters(n), 0, 0);
     }
 
+    /** Of three masters, with the greatest quota for each user and a worker of each capacity. */
+    static Client withWorkers(int... capacities) {
+        Client client = ofNewHerd(3);
+        for (int user = 0; user < 4; user++) {
+            client.quota(user, 60);
+        }
+        for (int capacity : capacities) {
+            client.addWorker(capacity);
+        }
+        return client;
+    }
+
     int order(int kind, int a, int b, int c, int d) {
         number++;
         return herd.order(master, id, number, kind, a, b, c, d, messages);
@@ -51,5 +63,19 @@ final class Client {
 
     int standing(int task) {
         return order(7, task, 0, 0, 0);
+    }
+
+    /** How tasks 0, 1, .. stand at its master, as order 7 would say it. */
+    void stand(String name, int... due) {
+        for (int k = 0; k < due.length; k++) {
+            Due.is(name + ": task " + k, 1000 * herd.task(master, k, 0) + herd.task(master, k, 1), due[k]);
+        }
+    }
+
+    /** On which workers tasks 0, 1, .. run at its master. */
+    void runOn(String name, int... due) {
+        for (int k = 0; k < due.length; k++) {
+            Due.is(name + ": worker of task " + k, herd.task(master, k, 2), due[k]);
+        }
     }
 }

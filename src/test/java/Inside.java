@@ -1,9 +1,11 @@
 import java.lang.reflect.Array;
 import java.lang.reflect.Field;
+import java.lang.reflect.Modifier;
 
 /**
- * Reaches into an object and breaks it: a theorem holds in every run of calls,
- * so whether it is looked at can be seen on a broken object alone.
+ * Reaches into an object. It breaks it: a theorem holds in every run of calls, so whether it
+ * is looked at can be seen on a broken object alone. And it pictures it, to see that a refused
+ * call has changed nothing, without the many calls that asking for everything would take.
  */
 final class Inside {
     private Inside() {
@@ -41,5 +43,37 @@ final class Inside {
 
     static void setPlace(Object object, String path, int place, Object value) throws ReflectiveOperationException {
         Array.set(get(object, path), place, value);
+    }
+
+    /** All that an object holds, as a text: two pictures are the same only if nothing has changed. */
+    static String picture(Object object) {
+        StringBuilder text = new StringBuilder();
+        try {
+            draw(object, text);
+        } catch (ReflectiveOperationException e) {
+            throw new IllegalStateException(e);
+        }
+        return text.toString();
+    }
+
+    private static void draw(Object object, StringBuilder text) throws ReflectiveOperationException {
+        if (object == null || object instanceof Number || object instanceof Boolean) {
+            text.append(object).append(' ');
+        } else if (object.getClass().isArray()) {
+            text.append('[');
+            for (int k = 0; k < Array.getLength(object); k++) {
+                draw(Array.get(object, k), text);
+            }
+            text.append(']');
+        } else {
+            text.append('{');
+            for (Field field : object.getClass().getDeclaredFields()) {
+                if (!Modifier.isStatic(field.getModifiers())) {
+                    field.setAccessible(true);
+                    draw(field.get(object), text);
+                }
+            }
+            text.append('}');
+        }
     }
 }

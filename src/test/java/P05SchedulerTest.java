@@ -65,32 +65,8 @@ final class P05SchedulerTest {
         Due.is("a twenty-first", client.addTask(0, 1, 0, -1), -1);
     }
 
-    /** One user with much quota, one worker of the capacity. */
-    private static Client withWorkers(int... capacities) {
-        Client client = Client.ofNewHerd(3);
-        for (int user = 0; user < 4; user++) {
-            client.quota(user, 60);
-        }
-        for (int capacity : capacities) {
-            client.addWorker(capacity);
-        }
-        return client;
-    }
-
-    private static void stands(Client client, String name, int... due) {
-        for (int k = 0; k < due.length; k++) {
-            Due.is(name + ": task " + k, 1000 * client.herd.task(0, k, 0) + client.herd.task(0, k, 1), due[k]);
-        }
-    }
-
-    private static void runOn(Client client, String name, int... due) {
-        for (int k = 0; k < due.length; k++) {
-            Due.is(name + ": worker of task " + k, client.herd.task(0, k, 2), due[k]);
-        }
-    }
-
     private static void outputs() {
-        Client client = withWorkers(10);
+        Client client = Client.withWorkers(10);
         client.addTask(0, 4, 0, -1);
         Due.is("it waits", client.output(0, 0, 9), 0);
         client.placing();
@@ -107,12 +83,12 @@ final class P05SchedulerTest {
         Due.is("once more", client.output(0, 2, 8), 0);
         Due.is("its output stays", client.herd.task(0, 0, 3), -7);
         Due.is("its room is free", client.herd.worker(0, 0, 1), 10);
-        stands(client, "finished", 2002);
+        client.stand("finished", 2002);
         Due.is("a finished task is not begun", client.placing(), 0);
     }
 
     private static void cancelling() {
-        Client client = withWorkers(10);
+        Client client = Client.withWorkers(10);
         client.addTask(0, 4, 0, -1);
         client.addTask(0, 5, 0, -1);
         client.addTask(0, 5, 0, -1);
@@ -124,14 +100,14 @@ final class P05SchedulerTest {
         Due.is("one that is finished", client.cancel(1), 0);
         Due.is("none such", client.cancel(3), 0);
         Due.is("none such", client.cancel(-1), 0);
-        stands(client, "cancelled", 3001, 2001, 3000);
+        client.stand("cancelled", 3001, 2001, 3000);
         Due.is("room is free", client.herd.worker(0, 0, 1), 10);
         Due.is("no output of a cancelled one", client.output(0, 1, 5), 0);
         Due.is("cancelled ones are not begun", client.placing(), 0);
     }
 
     private static void leases() {
-        Client client = withWorkers(10, 3);
+        Client client = Client.withWorkers(10, 3);
         client.addTask(0, 4, 0, -1);
         client.addTask(0, 5, 0, -1);
         client.addTask(0, 3, 0, -1);
@@ -139,15 +115,15 @@ final class P05SchedulerTest {
         Due.is("none such", client.endLease(2), 0);
         Due.is("none such", client.endLease(-1), 0);
         Due.is("two ran there", client.endLease(0), 2);
-        stands(client, "after the lease", 1, 1, 1001);
+        client.stand("after the lease", 1, 1, 1001);
         Due.is("none runs there", client.endLease(0), 0);
         Due.is("the worker is there still", client.herd.worker(0, 0, 1), 10);
         Due.is("begun again", client.placing(), 2);
-        stands(client, "begun again", 1002, 1002, 1001);
+        client.stand("begun again", 1002, 1002, 1001);
     }
 
     private static void standings() {
-        Client client = withWorkers(10);
+        Client client = Client.withWorkers(10);
         client.addTask(0, 4, 0, -1);
         Due.is("it waits", client.standing(0), 0);
         client.placing();
@@ -176,20 +152,20 @@ final class P05SchedulerTest {
     }
 
     private void order() {
-        Client client = withWorkers(10);
+        Client client = Client.withWorkers(10);
         client.addTask(0, 4, 1, -1);
         client.addTask(0, 4, 3, -1);
         client.addTask(0, 4, 1, -1);
         client.addTask(0, 4, 3, -1);
         Due.is("two of the greater priority", client.placing(), 2);
-        stands(client, "greater priority", 0, 1001, 0, 1001);
+        client.stand("greater priority", 0, 1001, 0, 1001);
         client.cancel(1);
         Due.is("then the lesser number", client.placing(), 1);
-        stands(client, "lesser number", 1001, 3001, 0, 1001);
+        client.stand("lesser number", 1001, 3001, 0, 1001);
     }
 
     private void waitsForTheTaskBefore() {
-        Client client = withWorkers(20);
+        Client client = Client.withWorkers(20);
         client.addTask(0, 1, 0, -1);
         client.addTask(0, 1, 3, 0);
         client.addTask(0, 1, 3, 1);
@@ -199,7 +175,7 @@ final class P05SchedulerTest {
         Due.is("the second", client.placing(), 1);
         client.cancel(1);
         Due.is("behind a cancelled one none begins", client.placing(), 0);
-        stands(client, "in a row", 2001, 3001, 0);
+        client.stand("in a row", 2001, 3001, 0);
     }
 
     private void quota() {
@@ -212,7 +188,7 @@ final class P05SchedulerTest {
         Due.is("quota 0 at first", client.placing(), 0);
         client.quota(2, 7);
         Due.is("up to the quota", client.placing(), 2);
-        stands(client, "quota", 1001, 0, 1001, 0);
+        client.stand("quota", 1001, 0, 1001, 0);
         Due.is("used", client.herd.used(0, 2), 7);
         client.quota(2, 9);
         Due.is("one less than needed", client.placing(), 0);
@@ -238,49 +214,49 @@ final class P05SchedulerTest {
         Due.is("5 and 5 are above 6", client.placing(), 0);
         client.quota(0, 10);
         Due.is("at most 10", client.placing(), 1);
-        stands(client, "gave way", 1, 1001);
+        client.stand("gave way", 1, 1001);
     }
 
     private void bestFit() {
-        Client client = withWorkers(9, 6, 8, 6);
+        Client client = Client.withWorkers(9, 6, 8, 6);
         client.addTask(0, 7, 3, -1);
         client.addTask(0, 6, 2, -1);
         client.addTask(0, 2, 1, -1);
         client.addTask(0, 6, 1, -1);
         client.addTask(0, 1, 0, -1);
         Due.is("all begun", client.placing(), 5);
-        runOn(client, "best fit", 2, 1, 3, 0, 2);
+        client.runOn("best fit", 2, 1, 3, 0, 2);
         int[] free = {3, 0, 0, 4};
         for (int w = 0; w < 4; w++) {
             Due.is("free on " + w, client.herd.worker(0, w, 1), free[w]);
         }
-        Client great = withWorkers(20, 19, 20, 19);
+        Client great = Client.withWorkers(20, 19, 20, 19);
         great.addTask(0, 1, 0, -1);
         great.addTask(0, 19, 0, -1);
         great.addTask(0, 20, 0, -1);
         Due.is("all three", great.placing(), 3);
-        runOn(great, "of the greatest", 1, 3, 0);
+        great.runOn("of the greatest", 1, 3, 0);
     }
 
     private void fewestGiveWay() {
-        Client client = withWorkers(6, 6, 6);
+        Client client = Client.withWorkers(6, 6, 6);
         int[] needs = {2, 4, 6, 6};
         for (int need : needs) {
             client.addTask(0, need, 0, -1);
         }
         Due.is("all begun", client.placing(), 4);
-        runOn(client, "full", 0, 0, 1, 2);
+        client.runOn("full", 0, 0, 1, 2);
         client.addTask(1, 5, 2, -1);
         Due.is("one more", client.placing(), 1);
         Due.is("two would leave worker 0, one leaves worker 1", client.herd.task(0, 4, 2), 1);
-        stands(client, "fewest", 1001, 1001, 1, 1001, 1001);
+        client.stand("fewest", 1001, 1001, 1, 1001, 1001);
         client.addTask(1, 3, 1, -1);
         Due.is("one from worker 0: task 1", client.placing(), 1);
-        runOn(client, "the lesser worker", 0, -1, -1, 2, 1, 0);
+        client.runOn("the lesser worker", 0, -1, -1, 2, 1, 0);
     }
 
     private void whoGivesWay() {
-        Client client = withWorkers(10);
+        Client client = Client.withWorkers(10);
         int[] priorities = {1, 0, 2, 0, 1};
         for (int priority : priorities) {
             client.addTask(0, 2, priority, -1);
@@ -288,72 +264,72 @@ final class P05SchedulerTest {
         Due.is("all begun", client.placing(), 5);
         client.addTask(1, 1, 3, -1);
         client.placing();
-        stands(client, "lowest, greatest number", 1001, 1001, 1001, 1, 1001, 1001);
+        client.stand("lowest, greatest number", 1001, 1001, 1001, 1, 1001, 1001);
         Due.is("no more left than was needed", client.herd.worker(0, 0, 1), 1);
         client.cancel(3);
         client.addTask(1, 4, 2, -1);
         client.placing();
-        stands(client, "then the next", 1001, 1, 1001, 3001, 1, 1001, 1001);
+        client.stand("then the next", 1001, 1, 1001, 3001, 1, 1001, 1001);
         client.addTask(1, 3, 2, -1);
         Due.is("2 of lower priority and 1 free", client.placing(), 1);
-        stands(client, "the last one of lower priority", 1, 1, 1001, 3001, 1, 1001, 1001, 1001);
+        client.stand("the last one of lower priority", 1, 1, 1001, 3001, 1, 1001, 1001, 1001);
     }
 
     private void equalsDoNotGiveWay() {
-        Client client = withWorkers(4);
+        Client client = Client.withWorkers(4);
         client.addTask(0, 4, 2, -1);
         client.placing();
         client.addTask(1, 1, 2, -1);
         client.addTask(1, 1, 1, -1);
         Due.is("none of equal or greater priority leaves", client.placing(), 0);
-        stands(client, "equals", 1001, 0, 0);
+        client.stand("equals", 1001, 0, 0);
         client.addTask(1, 1, 3, -1);
         Due.is("a lower one does, which leaves room for all but itself", client.placing(), 3);
-        stands(client, "lower", 1, 1001, 1001, 1001);
+        client.stand("lower", 1, 1001, 1001, 1001);
     }
 
     private void notEnoughGiveWay() {
-        Client client = withWorkers(6, 3);
+        Client client = Client.withWorkers(6, 3);
         client.addTask(0, 3, 3, -1);
         client.addTask(0, 6, 0, -1);
         Due.is("both", client.placing(), 2);
-        runOn(client, "both", 1, 0);
+        client.runOn("both", 1, 0);
         client.addTask(0, 7, 3, -1);
         Due.is("no worker is so great", client.placing(), 0);
-        stands(client, "none left for nothing", 1001, 1001, 0);
+        client.stand("none left for nothing", 1001, 1001, 0);
         client.cancel(2);
         client.addTask(0, 2, 1, -1);
         Due.is("where there is nothing to leave, none is asked", client.placing(), 1);
-        runOn(client, "from the worker with lower ones", 1, -1, -1, 0);
+        client.runOn("from the worker with lower ones", 1, -1, -1, 0);
     }
 
     /** When both have left, there is room for the smaller one: it may come in with the next placing. */
     private void whoGaveWayIsNotBegunAgain() {
-        Client client = withWorkers(7);
+        Client client = Client.withWorkers(7);
         client.addTask(0, 6, 0, -1);
         client.addTask(0, 1, 0, -1);
         Due.is("both", client.placing(), 2);
         client.addTask(1, 3, 1, -1);
         Due.is("one", client.placing(), 1);
-        stands(client, "both gave way", 1, 1, 1001);
+        client.stand("both gave way", 1, 1, 1001);
         Due.is("free", client.herd.worker(0, 0, 1), 4);
         Due.is("the next placing", client.placing(), 1);
-        stands(client, "the smaller one is back", 1, 1002, 1001);
+        client.stand("the smaller one is back", 1, 1002, 1001);
     }
 
     private void noMoreLeaveThanMust() {
-        Client client = withWorkers(9);
+        Client client = Client.withWorkers(9);
         for (int k = 0; k < 3; k++) {
             client.addTask(0, 3, 0, -1);
         }
         Due.is("three", client.placing(), 3);
         client.addTask(1, 6, 1, -1);
         Due.is("one for two", client.placing(), 1);
-        stands(client, "just room enough", 1001, 1, 1, 1001);
+        client.stand("just room enough", 1001, 1, 1, 1001);
     }
 
     private void nineteenGiveWay() {
-        Client client = withWorkers(20);
+        Client client = Client.withWorkers(20);
         for (int k = 0; k < 19; k++) {
             client.addTask(0, 1, 2, -1);
         }
@@ -368,12 +344,12 @@ final class P05SchedulerTest {
     }
 
     private void sixWorkersAndTwentyTasks() {
-        Client client = withWorkers(5, 5, 5, 5, 5, 5);
+        Client client = Client.withWorkers(5, 5, 5, 5, 5, 5);
         for (int k = 0; k < 20; k++) {
             client.addTask(k % 4, 5, k < 18 ? 0 : 3, k == 17 ? 16 : -1);
         }
         Due.is("six at once", client.placing(), 6);
-        runOn(client, "six at once", 2, 3, 4, 5, -1);
+        client.runOn("six at once", 2, 3, 4, 5, -1);
         Due.is("the last task", client.herd.task(0, 19, 2), 1);
         Due.is("the last worker", client.endLease(5), 1);
         Due.is("one waits for none of the six", client.placing(), 1);
