@@ -339,6 +339,10 @@ final class EdgesOfAskingTest {
                 Due.is("order " + k + " of " + m + " is another", herd.agree(), k >= done[m]);
             }
         }
+        HerdMasters lacking = new HerdMasters(3);
+        order(lacking, 0, 1, 40);
+        Inside.set(lacking, "masters 0 length", 0);
+        Due.is("an order that both know to be done, and one has not", lacking.agree(), false);
         HerdMasters open = new HerdMasters(3);
         open.link(0, 1, false);
         open.link(0, 2, false);
@@ -423,6 +427,13 @@ final class EdgesOfAskingTest {
         }
         Inside.setPlace(herd, "given isGiven", 6, true);
         Due.is("an answer was given where no order is done", herd.agree(), false);
+        HerdMasters twice = new HerdMasters(3);
+        order(twice, 0, 1, 40);
+        order(twice, 0, 1, 40);
+        Due.is("an answer was given twice", twice.agree(), true);
+        Inside.set(twice, "masters 0 answers 0", 5);
+        Due.is("and once more, another", order(twice, 0, 1, 40), 5);
+        Due.is("of the two one was other", twice.agree(), false);
         HerdMasters told = new HerdMasters(3);
         Due.is("0 alone knows it done", order(told, 0, 1, 2), 0);
         told.up(0, false);
@@ -496,8 +507,8 @@ final class EdgesOfAskingTest {
         Due.is("of one that is down", herd.count(3), 4);
         herd.change(1, 40);
         Due.is("not the last one", herd.count(3), 4);
-        herd.change(0, 40);
-        Due.is("of the first", herd.count(3), 5);
+        herd.change(0, 0);
+        Due.is("of the first alone", herd.count(3), 5);
     }
 
     private static void countOfAnother() {

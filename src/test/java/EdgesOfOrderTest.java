@@ -168,6 +168,7 @@ final class EdgesOfOrderTest {
         Due.is("60", herd.told(0, 2), 60);
         Due.isRefused("full", herd, () -> order(herd, 0, 1, 71, 40), NOT_HERE);
         Due.isRefused("full, and this one is not done", herd, () -> order(herd, 0, 0, 70, 40), NOT_HERE);
+        Due.isRefused("full, and a greater one is there, not this one", herd, () -> order(herd, 0, 0, 1, 40), NOT_HERE);
         Due.is("full, and this one is done", herd.order(0, 3, 69, 8, 0, 0, 0, 0, 40), -1);
         Due.is("the 60th is not done, and cannot be", herd.told(0, 3), 59);
         Due.is("a change of view finds room where the log is shorter", herd.told(1, 2), 59);

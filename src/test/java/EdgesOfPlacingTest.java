@@ -272,6 +272,8 @@ final class EdgesOfPlacingTest {
         Due.is("three of 2, for no other can", client.herd.task(0, 8, 2), 2);
         client.stand("three", 1, 1, 1, 1, 1, 1);
         fewestBehindTheFirst();
+        allButOneGiveWay();
+        fewestOnTheLastWorker();
     }
 
     private static void fewestBehindTheFirst() {
@@ -289,6 +291,33 @@ final class EdgesOfPlacingTest {
         client.placing();
         Due.is("one of 0, for those of 1 are not lower", client.herd.task(0, 4, 2), 0);
         client.stand("one more", 1001, 1, 1, 1001);
+    }
+
+    /** As many as can ever give way at once: nineteen of twenty tasks. */
+    private static void allButOneGiveWay() {
+        Client client = Client.withWorkers(20);
+        for (int k = 0; k < 19; k++) {
+            add(client, 1, 2);
+        }
+        Due.is("nineteen begin", client.placing(), 19);
+        client.addTask(1, 20, 3, -1);
+        Due.is("one for nineteen", client.placing(), 1);
+        Due.is("it runs", client.herd.used(0, 1), 20);
+        Due.is("none of the nineteen does", client.herd.used(0, 0), 0);
+    }
+
+    private static void fewestOnTheLastWorker() {
+        Client client = Client.withWorkers(2, 2, 2, 2, 2, 3);
+        for (int k = 0; k < 5; k++) {
+            add(client, 2, 3);
+        }
+        add(client, 3, 2);
+        Due.is("all six are full", client.placing(), 6);
+        client.addTask(1, 1, 2, -1);
+        Due.is("none can", client.placing(), 0);
+        client.addTask(1, 3, 3, -1);
+        Due.is("the last alone can", client.placing(), 1);
+        client.runOn("on the sixth", 0, 1, 2, 3, 4, -1, -1, 5);
     }
 
     private static void lesserOfThoseToClear() {
@@ -372,6 +401,16 @@ final class EdgesOfPlacingTest {
         client.addTask(1, 2, 3, -1);
         client.placing();
         client.stand("then 1, of greater priority", 1, 1, 1, 1, 1001, 1001, 1001);
+        Client last = Client.ofNewHerd(3);
+        last.quota(1, 60);
+        last.addWorker(4);
+        last.addTask(0, 2, 3, -1);
+        last.addTask(1, 2, 0, -1);
+        last.addTask(1, 2, 0, -1);
+        Due.is("the last two run", last.placing(), 2);
+        last.quota(0, 2);
+        Due.is("the first comes", last.placing(), 1);
+        last.stand("the last of all gives way", 1001, 1001, 1);
     }
 
     private static void untilThereIsRoom() {
