@@ -8,10 +8,6 @@ final class EdgesOfMastersTest {
     private static final int MAX = Integer.MAX_VALUE;
 
     static final Edges EDGES = new Edges()
-        .in("What it is")
-        .add("An object is used for at most 512 calls after it has been made", EdgesOfMastersTest::the512thCall)
-        .in("The public face")
-        .add("BAD = -1, OPEN = -2, NOT_HERE = -3", EdgesOfMastersTest::constants)
         .in("Terms")
         .add("MASTERS 0 .. n - 1.", EdgesOfMastersTest::whichMastersThereAre)
         .add("Each has a VIEW (0 at first)", EdgesOfMastersTest::viewAtFirst)
@@ -52,32 +48,6 @@ final class EdgesOfMastersTest {
 
     private static int asNumber(boolean answer) {
         return answer ? 1 : 0;
-    }
-
-    private static void the512thCall() {
-        HerdMasters changes = new HerdMasters(5);
-        for (int call = 1; call <= 512; call++) {
-            Due.is("call " + call + ", change(0, 40)", changes.change(0, 40), 5 * call);
-        }
-        HerdMasters last = new HerdMasters(3);
-        for (int call = 1; call < 512; call++) {
-            last.count(0);
-        }
-        Due.is("an order as call 512", order(last, 0, 1, 40), 0);
-        HerdMasters both = new HerdMasters(5);
-        for (int call = 1; call <= 60; call++) {
-            order(both, 0, call, 40);
-        }
-        for (int view = 1; view <= 451; view++) {
-            both.change(view % 5, 40);
-        }
-        Due.is("the greatest view as call 512", both.count(3), 451);
-    }
-
-    private static void constants() {
-        Due.is("BAD", HerdMasters.BAD, -1);
-        Due.is("OPEN", HerdMasters.OPEN, -2);
-        Due.is("NOT_HERE", HerdMasters.NOT_HERE, -3);
     }
 
     private static void whichMastersThereAre() {

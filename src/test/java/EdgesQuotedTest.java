@@ -7,12 +7,14 @@ import java.util.Map;
 
 /**
  * Whether the boundary tests stand by the document: each quotes words of the section that it names,
- * and no clause of "Terms" and of the promises is without a test.
+ * and no clause from its first line to the last promise is without a test.
  */
 final class EdgesQuotedTest {
     private static final Path DOCUMENT = Path.of("../shared/DOC.md");
+    /** Its title, and what it leaves free: there no test could fail. */
+    private static final List<String> WITHOUT_CLAUSES = List.of("# HerdMasters", "Not promised");
     private static final List<Edges> ALL = List.of(
-        EdgesOfMastersTest.EDGES, EdgesOfChangeTest.EDGES, EdgesOfOrderTest.EDGES,
+        EdgesOfWholeTest.EDGES, EdgesOfMastersTest.EDGES, EdgesOfChangeTest.EDGES, EdgesOfOrderTest.EDGES,
         EdgesOfSchedulerTest.EDGES, EdgesOfPlacingTest.EDGES, EdgesOfAskingTest.EDGES);
 
     public static void main(String[] args) throws IOException {
@@ -31,7 +33,7 @@ final class EdgesQuotedTest {
             }
         }
         for (String title : sections.keySet()) {
-            if (title.equals("Terms") || title.startsWith("Promise")) {
+            if (!WITHOUT_CLAUSES.contains(title)) {
                 everyClauseIsQuoted(title, sections.get(title), quoted.get(title));
             }
         }
